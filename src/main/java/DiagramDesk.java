@@ -1279,8 +1279,8 @@ public final class DiagramDesk {
     /** The buffer, and the shapes that were last read from it. */
     private static final class Text {
         private static final int MOST_DIGITS = 5;
-        // The shortest shape has 8 characters, and a ';' before the next one.
-        private static final int MOST_DRAFTS = MOST_CHARACTERS / 9 + 1;
+        // The shortest shape has 8 characters, so that six and the beginning of a seventh have room.
+        private static final int MOST_DRAFTS = 7;
 
         private final int[] codes = new int[MOST_CHARACTERS];
         private final Shape[] drafts = new Shape[MOST_DRAFTS];

@@ -2,7 +2,7 @@ import java.util.Random;
 
 /** Long runs of calls with fixed seeds, each answer compared with the one of the model. */
 public final class RandomRunsTest {
-    private static final int RUNS = 4000;
+    private static final int RUNS = 400;
     private static final int CALLS = 512;
     private static final String[] TEXTS = {"b", "e", "d", ";", ",", "-", "0", "1", "7", "9", "10", "500", "501",
         "10000", "10001", "99999", "b0,0,1,1", "e-5,7,30,40", "d10,-20,500,1", ",20,30,40", "x", " ", "~"};
