@@ -6,6 +6,7 @@ public final class HistoryTest {
         limit();
         eachAct();
         looksAreNoActs();
+        fullIsNoAct();
         numbersComeBack();
         fingerprint();
         Due.finish();
@@ -138,6 +139,40 @@ public final class HistoryTest {
         desk.read();
         Due.due("three acts", desk.undo(), 2);
         Due.due("the third one undone", desk.shape(2, 0), NONE);
+    }
+
+    /** Each undo takes the latest act before the call that found no room. */
+    private static void fullIsNoAct() {
+        DiagramDesk desk = Due.deskWith(20);
+        Due.due("addShape: full", desk.addShape(0, 0, 0, 1, 1), -3);
+        Due.due("read: full", Due.read(desk, "b0,0,1,1"), -3);
+        desk.undo();
+        Due.due("the last shape is undone", desk.shape(19, 0), NONE);
+        for (int k = 0; k < 20; k++) {
+            desk.connect(0, 0, 1, 0, 0);
+        }
+        Due.due("connect: full", desk.connect(0, 0, 1, 0, 0), -3);
+        desk.undo();
+        Due.due("the last connector is undone", desk.connectors(), 19);
+        for (int k = 0; k < 10; k++) {
+            desk.addGuide(0, k);
+        }
+        Due.due("addGuide: full", desk.addGuide(0, 10), -3);
+        desk.undo();
+        Due.due("the last guide is undone", desk.clearGuides(), 9);
+        desk.select(0, true);
+        for (int k = 1; k < 9; k++) {
+            desk.select(k, true);
+            desk.group();
+        }
+        desk.select(9, true);
+        Due.due("group: full", desk.group(), -3);
+        desk.undo();
+        Due.due("the last selection is undone", desk.selected(), 511);
+        Due.due("move: outside", desk.move(20000, 0), -4);
+        Due.due("drag: outside", desk.drag(0, -20000), -4);
+        desk.undo();
+        Due.due("the last group is undone", desk.shapesOf(7), -1);
     }
 
     private static void numbersComeBack() {
