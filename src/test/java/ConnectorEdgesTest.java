@@ -21,6 +21,8 @@ public final class ConnectorEdgesTest {
         pointOfNone();
         pointAxis();
         pointIndex();
+        oneBend();
+        twoBends();
         oddHalves();
         lengthOfNone();
         lengthEnds();
@@ -33,6 +35,7 @@ public final class ConnectorEdgesTest {
         betweenTheIntegers();
         endsOfSlanted();
         pointWithoutLength();
+        eachPart();
         rectangleOfRoundOnes();
         Due.finish();
     }
@@ -182,6 +185,32 @@ public final class ConnectorEdgesTest {
             Edge.range("point of style " + style, () -> connected(3), (desk, k) -> desk.point(connector, k, 1),
                     0, style + 1, NONE);
         }
+    }
+
+    /** A connector with all its points, from each of the four ports of a box to the top of another one. */
+    private static void bends(int style, int[][][] want) {
+        for (int port = 0; port < 4; port++) {
+            DiagramDesk desk = new DiagramDesk();
+            desk.addShape(0, 0, 0, 20, 10);
+            desk.addShape(0, 100, 200, 20, 30);
+            desk.connect(0, port, 1, 0, style);
+            for (int k = 0; k < want[port].length; k++) {
+                Due.due("style " + style + ", port " + port + ", x of " + k, desk.point(0, k, 0), want[port][k][0]);
+                Due.due("style " + style + ", port " + port + ", y of " + k, desk.point(0, k, 1), want[port][k][1]);
+            }
+        }
+    }
+
+    // "for style 1 (bx, ay) if the first port has the number 1 or 3, and (ax, by) otherwise"
+    private static void oneBend() {
+        bends(1, new int[][][] {{{10, 0}, {10, 200}, {110, 200}}, {{20, 5}, {110, 5}, {110, 200}},
+            {{10, 10}, {10, 200}, {110, 200}}, {{0, 5}, {110, 5}, {110, 200}}});
+    }
+
+    // "for style 2, if the first port has the number 1 or 3, (m, ay) and (m, by) .., and otherwise (ax, m) and (bx, m)"
+    private static void twoBends() {
+        bends(2, new int[][][] {{{10, 0}, {10, 100}, {110, 100}, {110, 200}}, {{20, 5}, {65, 5}, {65, 200}, {110, 200}},
+            {{10, 10}, {10, 105}, {110, 105}, {110, 200}}, {{0, 5}, {55, 5}, {55, 200}, {110, 200}}});
     }
 
     // "m = (ax + bx) / 2 .. m = (ay + by) / 2", "rounded down (also for negative numbers)"
@@ -381,6 +410,28 @@ public final class ConnectorEdgesTest {
         runs(point, new int[] {10, 5, 2, 2}, false);
         runs(point, new int[] {20, 20, 2, 2}, false);
         runs(point, new int[] {-100, -100, 500, 500}, true);
+    }
+
+    // "if a part of it has a point ..": the first part alone, one between, the last part alone, none
+    private static void eachPart() {
+        int[][] boxes = {{30, 4, 10, 10}, {64, 90, 10, 10}, {90, 195, 10, 10}, {30, 90, 10, 10}};
+        for (int box = 0; box < 4; box++) {
+            DiagramDesk desk = new DiagramDesk();
+            desk.addShape(0, 0, 0, 20, 10);
+            desk.addShape(0, 100, 200, 20, 30);
+            desk.addShape(0, boxes[box][0], boxes[box][1], boxes[box][2], boxes[box][3]);
+            desk.connect(0, 1, 1, 0, 2);
+            Due.due("through, part " + box, desk.through(0), box < 3 ? 4 : 0);
+        }
+        boxes = new int[][] {{30, 4, 10, 10}, {105, 90, 10, 10}, {30, 90, 10, 10}};
+        for (int box = 0; box < 3; box++) {
+            DiagramDesk desk = new DiagramDesk();
+            desk.addShape(0, 0, 0, 20, 10);
+            desk.addShape(0, 100, 200, 20, 30);
+            desk.addShape(0, boxes[box][0], boxes[box][1], boxes[box][2], boxes[box][3]);
+            desk.connect(0, 1, 1, 0, 1);
+            Due.due("through with one bend, part " + box, desk.through(0), box < 2 ? 4 : 0);
+        }
     }
 
     // "the inside of the rectangle of the shape", of whatever kind

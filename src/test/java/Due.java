@@ -13,8 +13,13 @@ final class Due {
     }
 
     static void typeAll(DiagramDesk desk, String text) {
+        typeAll(desk, text, 0);
+    }
+
+    /** Goes on typing where the buffer has so many characters already. */
+    static void typeAll(DiagramDesk desk, String text, int before) {
         for (int k = 0; k < text.length(); k++) {
-            due("type " + text.charAt(k), desk.type(text.charAt(k)), k + 1);
+            due("type " + text.charAt(k), desk.type(text.charAt(k)), before + k + 1);
         }
     }
 

@@ -114,7 +114,7 @@ public final class HistoryEdgesTest {
         Edge.act("select off one that is not selected", () -> Due.deskWith(1), desk -> desk.select(0, false), 0);
     }
 
-    // "(shapes, connectors, groups, selection, guides, grid step, tolerance, the order in depth)": each act, at both ends
+    // "(shapes, connectors, groups, selection, guides, grid step, tolerance, the order in depth)", by each act
     private static void allThatIsKept() {
         Edge.act("addShape", States::busy, desk -> desk.addShape(1, 1, 2, 3, 4), 8);
         Edge.act("removeShape", States::busy, desk -> desk.removeShape(4), 1);

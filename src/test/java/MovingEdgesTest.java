@@ -52,6 +52,7 @@ public final class MovingEdgesTest {
         distributeSpaces();
         distributeRest();
         distributeEqual();
+        distributeAfterAlign();
         distributeTwenty();
         distributeOutside();
         Due.finish();
@@ -106,7 +107,8 @@ public final class MovingEdgesTest {
 
     // All of them: one that would leave is enough, be it the first or the last.
     private static void moveOneOutside() {
-        Supplier<DiagramDesk> state = () -> States.chosen(new int[] {9990, 0}, new int[] {0, 9980}, new int[] {-30, -9970});
+        Supplier<DiagramDesk> state =
+                () -> States.chosen(new int[] {9990, 0}, new int[] {0, 9980}, new int[] {-30, -9970});
         Edge.act("move all to the ends", state, desk -> desk.move(10, 20), 0);
         Edge.still("move the first one outside", state, desk -> desk.move(11, 20), OUTSIDE);
         Edge.still("move the second one outside", state, desk -> desk.move(10, 21), OUTSIDE);
@@ -536,6 +538,16 @@ public final class MovingEdgesTest {
         Edge.still("align beyond it", () -> nearTheEnd(489), desk -> desk.align(2), OUTSIDE);
         Edge.act("align to the bottom end", () -> nearTheEnd(490), desk -> desk.align(5), 1);
         Edge.still("align beyond it", () -> nearTheEnd(489), desk -> desk.align(5), OUTSIDE);
+        DiagramDesk first = new DiagramDesk();
+        first.addShape(0, 0, 0, 489, 489);
+        first.addShape(0, 9990, 9990, 500, 500);
+        first.select(0, true);
+        first.select(1, true);
+        Due.due("align the first one beyond the right end", first.align(2), OUTSIDE);
+        Due.due("align the first one beyond the bottom end", first.align(5), OUTSIDE);
+        first.resize(0, 490, 490);
+        Due.due("align the first one to the right end", first.align(2), 1);
+        Due.due("align the first one to the bottom end", first.align(5), 1);
         Supplier<DiagramDesk> corners = () -> States.chosen(new int[] {-10000, 10000}, new int[] {10000, -10000});
         Edge.act("align at the left end", corners, desk -> desk.align(0), 1);
         Edge.act("align at the top end", corners, desk -> desk.align(3), 1);
@@ -613,13 +625,25 @@ public final class MovingEdgesTest {
         places("distribute what is distributed", desk, 2, 0, 50, 100);
     }
 
+    // .. whatever was planned for them before
+    private static void distributeAfterAlign() {
+        DiagramDesk desk = three(40);
+        desk.align(2);
+        desk.undo();
+        desk.align(4);
+        desk.undo();
+        Due.due("distribute after align", desk.distribute(0), 20);
+        places("distribute after align", desk, 1, 0, 20, 40);
+        places("distribute after align", desk, 2, 0, 1, 40);
+    }
+
     private static void distributeTwenty() {
         DiagramDesk desk = new DiagramDesk();
         for (int k = 0; k < 20; k++) {
             desk.addShape(0, 19 - k, 0, 1, 1);
             desk.select(k, true);
         }
-        desk.select(0, false);
+        // Shapes 19 to 1 touch one another.
         desk.removeShape(0);
         Due.due("distribute nineteen", desk.distribute(0), 0);
         DiagramDesk all = new DiagramDesk();

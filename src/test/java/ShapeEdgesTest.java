@@ -146,7 +146,8 @@ public final class ShapeEdgesTest {
 
     // "BAD if an argument is not in its range; FULL if ..", with "the one listed first is returned"
     private static void badBeforeFull() {
-        int[][] wrong = {{3, 0, 0, 1, 1}, {0, 10001, 0, 1, 1}, {0, 0, -10001, 1, 1}, {0, 0, 0, 0, 1}, {0, 0, 0, 1, 501}};
+        int[][] wrong = {{3, 0, 0, 1, 1}, {0, 10001, 0, 1, 1}, {0, 0, -10001, 1, 1}, {0, 0, 0, 0, 1},
+            {0, 0, 0, 1, 501}};
         for (int[] n : wrong) {
             Edge.still("addShape, wrong and full", States::full,
                     desk -> desk.addShape(n[0], n[1], n[2], n[3], n[4]), BAD);

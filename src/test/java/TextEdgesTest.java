@@ -27,6 +27,7 @@ public final class TextEdgesTest {
         addsAsAddShape();
         emptyAfterwards();
         staysWithAnError();
+        afterAnError();
         oneAct();
         fullAtTwenty();
         fullCountsRemoved();
@@ -314,6 +315,22 @@ public final class TextEdgesTest {
         Due.due("read", full.read(), FULL);
         Due.due("read again", full.read(), FULL);
         Due.due("it stays", full.clear(), 8);
+    }
+
+    // Shapes that were read before the error place don't count in a later reading.
+    private static void afterAnError() {
+        DiagramDesk desk = typed("b0,0,1,1;e0,0,1,1;");
+        Due.due("read", desk.read(), -118);
+        desk.type('d');
+        Due.due("read", desk.read(), -119);
+        Due.typeAll(desk, "7,8,9,10", 19);
+        Due.due("read", desk.read(), 3);
+        Due.due("the next number", desk.addShape(0, 0, 0, 1, 1), 3);
+        Due.due("the third one", desk.shape(2, 1), 7);
+        Due.typeAll(desk, "b5,0,1,1");
+        Due.due("read another text", desk.read(), 1);
+        Due.due("its shape", desk.shape(4, 1), 5);
+        Due.due("the next number", desk.addShape(0, 0, 0, 1, 1), 5);
     }
 
     // "This is one act", however many shapes it adds; the buffer is no part of the history
